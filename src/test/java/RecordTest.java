@@ -11,6 +11,9 @@ final class RecordTest {
         restoreWithoutSnapshot();
         whatIsNotSaved();
         restoreEverything();
+        restoreSessions();
+        restoreConnections();
+        restoreShares();
         Check.end();
     }
 
@@ -264,5 +267,108 @@ final class RecordTest {
             seen[n++] = b.subscription(1, 0, what);
         }
         return seen;
+    }
+
+    private static void restoreSessions() {
+        GradedTopicBroker b = new GradedTopicBroker();
+        b.connect(0, false);
+        b.connect(1, false);
+        Check.subscribe(b, 0, "a", 2, 0, 0);
+        for (int i = 1; i <= 5; i++) {
+            Check.publish(b, 1, "a", 2, i, i);
+        }
+        b.answer(0, 2, 2);
+        b.connect(2, false);
+        b.advance(3);
+        b.disconnect(2);
+        b.save();
+        b.answer(0, 4, 2);
+        b.answer(0, 2, 1);
+        b.answer(0, 4, 1);
+        b.release(1, 1);
+        b.release(1, 5);
+        Check.publish(b, 1, "a", 2, 9, 9);
+        b.connect(2, false);
+        b.advance(30);
+        b.disconnect(2);
+        b.connect(0, true);
+        b.restore();
+        int[][] flights = {{1, 2, 1, 2, 0}, {2, 2, 2, 4, 0}, {3, 2, 3, 2, 0}};
+        for (int i = 0; i < 3; i++) {
+            for (int what = 0; what < 5; what++) {
+                Check.due("in flight " + i + " " + what, b.inFlight(0, i, what), flights[i][what]);
+            }
+        }
+        Check.due("kept again", Check.publish(b, 1, "a", 2, 1, 1), 0);
+        Check.due("kept again", b.release(1, 5), 1);
+        Check.due("not kept again", b.release(1, 9), 0);
+        Check.due("pending again", b.length(0, 2), 2);
+        b.answer(0, 4, 2);
+        Check.due("the first pending one", b.inFlight(0, 2, 2), 4);
+        Check.due("the next identifier", b.inFlight(0, 2, 0), 4);
+        b.advance(19);
+        Check.due("offline since then", b.sessionState(2), 1);
+        b.advance(1);
+        Check.due("and not longer", b.sessionState(2), 0);
+    }
+
+    private static void restoreConnections() {
+        GradedTopicBroker b = new GradedTopicBroker();
+        b.connect(0, false);
+        b.connect(1, false);
+        Check.subscribe(b, 1, "w", 2, 0, 0);
+        Check.retain(b, 0, "w", 2, 3);
+        Check.write(b, "w").setWill(0, 2, true, 6);
+        b.release(0, 7);
+        for (int i = 0; i < 29; i++) {
+            b.release(1, i + 1);
+        }
+        b.receive(1);
+        b.release(1, 40);
+        b.save();
+        b.advance(1);
+        int load = b.load(1);
+        Check.write(b, "x").setWill(0, 0, false, 1);
+        Check.drain(b, 1);
+        b.disconnect(1);
+        b.restore();
+        Check.due("the clock goes back", b.advance(1), 1);
+        Check.due("sent ones are counted again", b.load(1), load);
+        for (int i = 0; i < 29; i++) {
+            b.receive(1);
+            Check.due("queue in order", b.packet(1), i + 1);
+        }
+        b.receive(1);
+        Check.due("the last one", b.packet(1), 40);
+        Check.noPacket("no more", b, 1);
+        Check.due("the will", b.breakConnection(0), 1);
+        Check.packet("as it was", b, 1, Check.parts(0, 2, 2, 6, 0), "w");
+        entry(b, 0, 2, 6, 1);
+    }
+
+    private static void restoreShares() {
+        GradedTopicBroker b = new GradedTopicBroker();
+        for (int c = 0; c < 3; c++) {
+            b.connect(c, false);
+            Check.subscribe(b, c, "a", 1, 1, 0);
+        }
+        Check.subscribe(b, 2, "+", 0, 3, 0);
+        Check.publish(b, 0, "a", 0, 0, 1);
+        b.save();
+        Check.publish(b, 0, "a", 0, 0, 1);
+        Check.publish(b, 0, "a", 0, 0, 1);
+        Check.write(b, "a").unsubscribe(1, 1);
+        Check.write(b, "+").unsubscribe(2, 3);
+        Check.subscribe(b, 0, "b", 0, 2, 0);
+        b.restore();
+        int[] want = {1, 2, 0};
+        for (int i = 0; i < 3; i++) {
+            Check.due("member " + i, Check.write(b, "a").shareMember(1, i), want[i]);
+        }
+        Check.due("the other share", Check.write(b, "+").shareSize(3), 1);
+        Check.due("no later share", Check.write(b, "b").shareSize(2), 0);
+        Check.due("counted as then", Check.write(b, "a").published(), 1);
+        Check.due("both", Check.publish(b, 0, "a", 0, 0, 1), 2);
+        Check.due("counted anew", Check.write(b, "a").published(), 2);
     }
 }

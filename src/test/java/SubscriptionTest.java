@@ -13,6 +13,7 @@ final class SubscriptionTest {
         shares();
         shareOrder();
         sharesOfOfflineMembers();
+        asManySharesAsCanBe();
         Check.end();
     }
 
@@ -364,5 +365,35 @@ final class SubscriptionTest {
         Check.due("to the publisher itself", Check.publish(b, 3, "a", 1, 1, 2), 1);
         Check.due("to the publisher itself", Check.publish(b, 3, "a", 1, 1, 2), 1);
         Check.due("in flight to it", b.length(3, 1), 1);
+    }
+
+    private static void asManySharesAsCanBe() {
+        GradedTopicBroker b = new GradedTopicBroker();
+        for (int c = 0; c < 6; c++) {
+            b.connect(c, c == 5);
+            for (int i = 0; i < 6; i++) {
+                Check.subscribe(b, c, "a/#", 0, i % 3 + 1, 0);
+                Check.due("a share alone", Check.subscribe(b, c, "a/" + (char) ('a' + c) + i, 0, 1, 0), 2);
+                Check.write(b, "a/" + (char) ('a' + c) + i).unsubscribe(c, 1);
+                Check.write(b, "a/#").unsubscribe(c, i % 3 + 1);
+            }
+        }
+        for (int c = 0; c < 6; c++) {
+            for (int i = 0; i < 6; i++) {
+                int group = i % 3 + 1;
+                String filter = i < 3 ? "" + (char) ('a' + c) : (char) ('a' + c) + "/#";
+                Check.due("subscribe", Check.subscribe(b, c, filter, 0, group, 0), i + 1);
+                Check.due("share", Check.write(b, filter).shareSize(group), 1);
+            }
+        }
+        Check.due("the first six", Check.publish(b, 0, "a", 0, 0, 1), 6);
+        Check.due("the last six", Check.write(b, "f").audience(0), 6);
+        Check.write(b, "f/#").unsubscribe(5, 3);
+        Check.due("the last one left", Check.write(b, "f").audience(0), 5);
+        Check.subscribe(b, 5, "f/#", 0, 3, 0);
+        Check.due("all again", Check.write(b, "f").audience(0), 6);
+        b.disconnect(5);
+        Check.due("a session left", Check.write(b, "f").audience(0), 0);
+        Check.due("others stay", Check.write(b, "e").audience(0), 6);
     }
 }
