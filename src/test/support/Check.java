@@ -16,6 +16,14 @@ final class Check {
         }
     }
 
+    static void same(String what, String got, String want) {
+        asked++;
+        if (!got.equals(want)) {
+            wrong++;
+            System.out.println(what + " answered " + got + ", due is " + want);
+        }
+    }
+
     static void outOfBounds(String what, IntSupplier call) {
         raises(what, "IndexOutOfBoundsException", call);
     }
@@ -29,12 +37,7 @@ final class Check {
     }
 
     private static void raises(String what, String want, IntSupplier call) {
-        asked++;
-        String got = outcome(call);
-        if (!got.equals(want)) {
-            wrong++;
-            System.out.println(what + " gave " + got + ", due is " + want);
-        }
+        same(what, outcome(call), want);
     }
 
     /** The answer of a call, or the name of what it throws. */
